@@ -350,6 +350,9 @@ public final class StayPlay {
         if (chooser == FIXED) {
             plan.fix();
         }
+        if (chooser == AHEAD) {
+            guide.ahead.settle(0, NONE, now.people[0], now.people[1], 0);
+        }
         latestWorld.seed = seed;
         latestWorld.plays(chooser, now.people[0], now.people[1]);
         return accept(latestWorld.size);
@@ -869,11 +872,12 @@ public final class StayPlay {
 
     /** Asks the law in force. */
     private static final class Asker {
+        static final long MOST_SUM = 1000000000L;
+
         final House house;
         /** sort, scene, before, heads, own, minute, played. */
         final int[] facts = new int[7];
         final long[] stack = new long[64];
-        static final long MOST_SUM = 1000000000L;
 
         Asker(House house) {
             this.house = house;
@@ -939,23 +943,24 @@ public final class StayPlay {
                     return false;
                 }
                 top--;
-                long a = stack[top - 1];
-                long b = stack[top];
-                switch (order) {
-                    case Law.ADD: a += b; break;
-                    case Law.SUBTRACT: a -= b; break;
-                    case Law.MULTIPLY: a *= b; break;
-                    case Law.DIVIDE: a = b == 0 ? 0 : a / b; break;
-                    case Law.LESS: a = a < b ? 1 : 0; break;
-                    case Law.MORE: a = a > b ? 1 : 0; break;
-                    default: a = a == b ? 1 : 0; break;
-                }
-                if (a > MOST_SUM || a < -MOST_SUM) {
+                stack[top - 1] = joined(order, stack[top - 1], stack[top]);
+                if (stack[top - 1] > MOST_SUM || stack[top - 1] < -MOST_SUM) {
                     return false;
                 }
-                stack[top - 1] = a;
             }
             return top == 1 || top == 2 && stack[1] != 0;
+        }
+
+        private static long joined(int order, long a, long b) {
+            switch (order) {
+                case Law.ADD: return a + b;
+                case Law.SUBTRACT: return a - b;
+                case Law.MULTIPLY: return a * b;
+                case Law.DIVIDE: return b == 0 ? 0 : a / b;
+                case Law.LESS: return a < b ? 1 : 0;
+                case Law.MORE: return a > b ? 1 : 0;
+                default: return a == b ? 1 : 0;
+            }
         }
     }
 
@@ -1044,8 +1049,9 @@ public final class StayPlay {
 
     /** Where an evening can be, and what the law tells there, asked once as long as it stands. */
     private static final class Steps {
-        /** A node is a set of scenes that were played with the latest of them. */
-        static final int NODES = 161;
+        /** A node is a set of scenes that were played with the latest of them; most numbers are no node. */
+        static final int NODE_NUMBERS = 161;
+        static final int NODES = 81;
         static final int STEPS = 165;
         static final int KNOWN = 1 << 30;
         /** How many limbs a value needs when so many scenes were played. */
@@ -1054,8 +1060,9 @@ public final class StayPlay {
 
         final House house;
         final Asker asker;
-        final int[] firstStep = new int[NODES];
-        final int[] firstLimb = new int[NODES];
+        final int[] firstStep = new int[NODE_NUMBERS];
+        final int[] firstLimb = new int[NODE_NUMBERS];
+        final int[] firstSlot = new int[NODE_NUMBERS];
         final int[] kept = new int[STEPS * CROWDS];
         boolean stale = false;
 
@@ -1064,6 +1071,7 @@ public final class StayPlay {
             this.asker = asker;
             int step = 0;
             int limb = 0;
+            int slot = 0;
             for (int set = 0; set < MOST_SETS; set++) {
                 int played = Integer.bitCount(set);
                 for (int latest = NONE; latest < MOST_SCENES; latest++) {
@@ -1071,8 +1079,10 @@ public final class StayPlay {
                     if (there) {
                         firstStep[nodeOf(set, latest)] = step;
                         firstLimb[nodeOf(set, latest)] = limb;
+                        firstSlot[nodeOf(set, latest)] = slot;
                         step += MOST_SCENES - played;
                         limb += LIMBS[played] * CROWDS;
+                        slot += CROWDS;
                     }
                 }
             }
@@ -1139,12 +1149,33 @@ public final class StayPlay {
         }
 
         int choose(int chooser, int set, int latest, int zero, int one) {
-            switch (chooser) {
-                case BOOK: return ofRow(house.book, house.bookSize, set);
-                case MOST: return keepsMost(set, latest, zero, one);
-                case AHEAD: return ahead.bestAt(set, latest, zero, one);
-                default: return ofRow(fixedRow, fixedSize, set);
+            if (chooser == BOOK) {
+                return ofRow(house.book, house.bookSize, set);
             }
+            if (chooser == FIXED) {
+                return ofRow(fixedRow, fixedSize, set);
+            }
+            if (chooser == AHEAD) {
+                return ahead.bestAt(set, latest, zero, one);
+            }
+            int open = house.open(set);
+            int best = NONE;
+            int most = -1;
+            for (int scene = 0; scene < house.scenes; scene++) {
+                if ((open >> scene & 1) == 0) {
+                    continue;
+                }
+                int mean = 100 * (zero + one);
+                if (!house.isEnd(scene)) {
+                    int told = steps.told(set, latest, scene, zero, one);
+                    mean = zero * Steps.chanceOf(told, 0) + one * Steps.chanceOf(told, 1);
+                }
+                if (mean > most) {
+                    most = mean;
+                    best = scene;
+                }
+            }
+            return best;
         }
 
         /** Takes FIXED's row out of the one number in which it is listed. */
@@ -1167,27 +1198,6 @@ public final class StayPlay {
             }
             return before == set && House.holds(house.open(set), row[played]) ? row[played] : NONE;
         }
-
-        private int keepsMost(int set, int latest, int zero, int one) {
-            int open = house.open(set);
-            int best = NONE;
-            int most = -1;
-            for (int scene = 0; scene < house.scenes; scene++) {
-                if (!House.holds(open, scene)) {
-                    continue;
-                }
-                int mean = 100 * (zero + one);
-                if (!house.isEnd(scene)) {
-                    int told = steps.told(set, latest, scene, zero, one);
-                    mean = zero * Steps.chanceOf(told, 0) + one * Steps.chanceOf(told, 1);
-                }
-                if (mean > most) {
-                    most = mean;
-                    best = scene;
-                }
-            }
-            return best;
-        }
     }
 
     /** What an evening comes to from each place on, settled where it is asked for. */
@@ -1196,8 +1206,8 @@ public final class StayPlay {
         final Steps steps;
         final Guide guide;
         final long[] values = new long[Steps.ALL_LIMBS * CROWDS];
-        final int[] settledIn = new int[Steps.NODES * CROWDS];
-        final byte[] best = new byte[Steps.NODES * CROWDS];
+        /** The turn in which a place was settled, and below it in three bits the best scene and 1. */
+        final int[] settled = new int[Steps.NODES * CROWDS];
         final long[] sum = new long[Digits.WIDTH];
         final long[] part = new long[Digits.WIDTH];
         final long[] spreadZero = new long[MOST_PEOPLE + 1];
@@ -1220,9 +1230,10 @@ public final class StayPlay {
             turn++;
         }
 
+        /** The best scene of a place that was settled. */
         int bestAt(int set, int latest, int zero, int one) {
-            int slot = Steps.nodeOf(set, latest) * CROWDS + Steps.crowdOf(zero, one);
-            return settledIn[slot] == turn ? best[slot] : NONE;
+            int mark = settled[steps.firstSlot[Steps.nodeOf(set, latest)] + Steps.crowdOf(zero, one)];
+            return mark >> 3 == turn ? (mark & 7) - 1 : NONE;
         }
 
         void copyRoot(int zero, int one, long[] to) {
@@ -1235,15 +1246,15 @@ public final class StayPlay {
         }
 
         /** Sees to it that the value at this place is known. */
-        void settle(int set, int latest, int zero, int one, int played) {
-            int slot = Steps.nodeOf(set, latest) * CROWDS + Steps.crowdOf(zero, one);
-            if (settledIn[slot] == turn || played > MOST_SCENES) {
+        private void settle(int set, int latest, int zero, int one, int played) {
+            int slot = steps.firstSlot[Steps.nodeOf(set, latest)] + Steps.crowdOf(zero, one);
+            if (settled[slot] >> 3 == turn || played > MOST_SCENES) {
                 return;
             }
             int at = limbAt(set, latest, zero, one);
             int limbs = Steps.LIMBS[played];
+            int best = NONE;
             Arrays.fill(values, at, at + limbs, 0L);
-            best[slot] = NONE;
             if (zero + one == 0) {
                 if (kind == ALL_GONE && played > 0) {
                     startSum(played, 1);
@@ -1258,13 +1269,13 @@ public final class StayPlay {
                         continue;
                     }
                     bring(set, latest, scene, zero, one);
-                    if (best[slot] == NONE || Digits.compare(sum, values, at, limbs) > 0) {
+                    if (best == NONE || Digits.compare(sum, values, at, limbs) > 0) {
                         System.arraycopy(sum, 0, values, at, limbs);
-                        best[slot] = (byte) scene;
+                        best = scene;
                     }
                 }
             }
-            settledIn[slot] = turn;
+            settled[slot] = turn << 3 | best + 1;
         }
 
         /** Into the sum comes what the evening is worth from here on, if this scene is played. */
@@ -1302,6 +1313,7 @@ public final class StayPlay {
         private void expect(int set, int latest, int zero, int one, int told) {
             int limbs = Steps.LIMBS[Integer.bitCount(set)];
             int wider = Math.min(limbs + 2, Digits.WIDTH);
+            int first = steps.firstLimb[Steps.nodeOf(set, latest)];
             Digits.spread(spreadZero, zero, Steps.chanceOf(told, 0));
             Digits.spread(spreadOne, one, Steps.chanceOf(told, 1));
             for (int a = 0; a <= zero; a++) {
@@ -1311,7 +1323,7 @@ public final class StayPlay {
                 Arrays.fill(part, 0L);
                 for (int b = 0; b <= one; b++) {
                     if (spreadOne[b] != 0) {
-                        Digits.addTimes(part, values, limbAt(set, latest, a, b), limbs, spreadOne[b]);
+                        Digits.addTimes(part, values, first + Steps.crowdOf(a, b) * limbs, limbs, spreadOne[b]);
                     }
                 }
                 Digits.carry(part);
@@ -1606,11 +1618,8 @@ public final class StayPlay {
             this.guide = guide;
         }
 
-        /** An evening; for FIXED its row is found ahead of it. */
+        /** An evening; for FIXED its row is found, for AHEAD the first place is settled ahead of it. */
         void plays(int chooser, int zero, int one) {
-            if (chooser == AHEAD) {
-                guide.ahead.settle(0, NONE, zero, one, 0);
-            }
             size = 0;
             sawZero = 0;
             sawOne = 0;
@@ -1650,6 +1659,9 @@ public final class StayPlay {
                 if (night > 0) {
                     zero = Math.min(MOST_PEOPLE, sawZero + draw(house.fresh[0] + 1));
                     one = Math.min(MOST_PEOPLE, sawOne + draw(house.fresh[1] + 1));
+                }
+                if (chooser == AHEAD) {
+                    guide.ahead.settle(0, NONE, zero, one, 0);
                 }
                 plays(chooser, zero, one);
                 came += zero + one;
