@@ -1158,7 +1158,7 @@ public final class StayPlay {
             if (chooser == AHEAD) {
                 return ahead.bestAt(set, latest, zero, one);
             }
-            int open = house.open(set);
+            int open = chooser == MOST ? house.open(set) : 0;
             int best = NONE;
             int most = -1;
             for (int scene = 0; scene < house.scenes; scene++) {
