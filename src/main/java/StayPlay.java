@@ -738,7 +738,6 @@ public final class StayPlay {
                 return false;
             }
             heads[clauses] = head;
-            starts[clauses] = size;
             at++;
             if (!sums(0, 0)) {
                 return false;

@@ -109,7 +109,9 @@ public final class EveningTest {
         C.due("next", x.next(0, 0, -1, 1, 0), 0);
         C.due("next that is too long", x.next(0, 1, 0, 1, 0), -1);
         C.due("next when others were played", x.next(0, 4, 2, 1, 0), -1);
+        C.due("worth", x.worth(0), 3000);
         x.tear();
+        C.due("worth of no row", x.worth(0), 0);
         C.due("next of no row", x.next(0, 0, -1, 1, 0), -1);
     }
 

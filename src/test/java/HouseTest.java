@@ -170,6 +170,10 @@ public final class HouseTest {
         C.tape(x, "\u0001");
         C.due("row() of one byte", x.row(), 0);
         C.due("cut()", x.cut(), 1);
+        C.tape(x, "\u0001\u0000\u0000");
+        x.end(2);
+        C.due("row() of two bytes, whatever stood behind them", x.row(), 0);
+        C.due("cut()", x.cut(), 1);
         C.tape(x, "\u0001\u0000\u0000\u0002\u0000\u0000\u0003\u0000\u0000\u0004\u0000\u0001\u0005\u0000\u0000");
         C.due("row()", x.row(), 4);
         C.due("cut() without room", x.cut(), 1);
@@ -320,6 +324,44 @@ public final class HouseTest {
         C.due("count(0)", x.count(0), 2);
     }
 
+    /** Rows that are changed in their places, not in their lengths, come back too. */
+    private static void imagesOfRows() {
+        C.about("promise 33, rows");
+        StayPlay x = new StayPlay();
+        for (int i = 0; i < 5; i++) {
+            x.scene(10 + i, 0, 0);
+        }
+        x.sort(0, 0, 1);
+        x.image(1);
+        C.force(x, "stays 0");
+        x.book(0);
+        x.book(4);
+        x.heads(5);
+        for (int i = 0; i < 5; i++) {
+            x.stayed(i, i == 4 ? 0 : 5);
+        }
+        x.image(0);
+        C.due("worth(0)", x.worth(0), 1000);
+        C.due("were(0)", x.were(0), -1);
+        x.back(1);
+        C.force(x, "stays 0 if scene=4");
+        x.book(4);
+        x.book(0);
+        x.heads(5);
+        for (int i = 4; i >= 0; i--) {
+            x.stayed(i, 0);
+        }
+        C.due("worth(0)", x.worth(0), 1400);
+        C.due("were(0)", x.were(0), 166666);
+        x.back(0);
+        C.due("the law", x.asks(0, 0, 0, -1, 1, 0, 0, 0), 0);
+        C.due("the book", x.worth(0), 1000);
+        C.due("the heads", x.were(0), -1);
+        C.force(x, "stays 0 if scene=4");
+        C.due("the heads, by another law", x.were(0), 166666);
+        C.due("it is in the row of heads", x.stayed(4, 0), -3);
+    }
+
     private static void latestWorldStays() {
         C.about("promise 33, the latest world");
         StayPlay x = new StayPlay();
@@ -387,6 +429,7 @@ public final class HouseTest {
         can();
         book();
         images();
+        imagesOfRows();
         latestWorldStays();
         counts();
         C.end("HouseTest");

@@ -94,6 +94,9 @@ public final class LawTest {
         right("stays 1 if " + "(".repeat(5) + "[[[1]]]=[[[1]]]" + ")".repeat(5) + " or " + "(".repeat(8) + "1=1" + ")".repeat(8));
         wrong("stays 1 if " + "(".repeat(5) + "[[[1]]]=[[[[1]]]]" + ")".repeat(5), 27);
         right("stays 1 if " + "not ".repeat(90) + "1=1");
+        wrong("+".repeat(400), 0);
+        right("stays 1" + " ".repeat(393));
+        wrong("stays 1 if " + "not ".repeat(97) + "1", 400);
     }
 
     private static void room() {
@@ -109,6 +112,20 @@ public final class LawTest {
         C.due("fault of the latest that was read", x.fault(), -1);
         C.due("status()", x.status(), -5);
         C.due("law without room and text", x.law(), -5);
+    }
+
+    /** Each text is read as if it were the first. */
+    private static void oneBehindTheOther() {
+        C.about("promise 10, one behind the other");
+        StayPlay x = new StayPlay();
+        x.scene(1, 0, 0);
+        for (int i = 0; i < 40; i++) {
+            C.law(x, "price 1;stays 5" + "+own".repeat(45) + " if ((1<2");
+            C.due("fault", x.fault(), 204);
+        }
+        C.force(x, "stays 2;price 3+own if own<" + "1+".repeat(40) + "1");
+        C.due("chance", x.asks(0, 0, 0, -1, 1, 0, 0, 0), 2);
+        C.due("price", x.asks(1, 0, 0, -1, 1, 0, 0, 0), 4);
     }
 
     /** What a law tells when it is asked of sort 1, scene 2, before 0, 3 and 4 there, minute 25, played 3. */
@@ -216,6 +233,7 @@ public final class LawTest {
         texts();
         limits();
         room();
+        oneBehindTheOther();
         facts();
         sums();
         broken();

@@ -81,6 +81,8 @@ public final class WorldTest {
         C.due("saw", x.nights(1, 2, 5, 1), 2);
         C.due("sat", x.nights(1, 2, 5, 2), 90);
         C.due("the latest world is not touched", x.ran(0, 0), -1);
+        C.due("seed 0", x.nights(1, 2, 0, 0), 5);
+        C.due("the greatest seed", x.nights(1, 2, 1000000, 0), 5);
         int[][] wrong = {{0, 2, 5, 0}, {61, 2, 5, 0}, {-1, 2, 5, 0}, {1, 4, 5, 0}, {1, -1, 5, 0}, {1, 2, -1, 0},
             {1, 2, 1000001, 0}, {1, 2, 5, 3}, {1, 2, 5, -1}};
         for (int[] w : wrong) {
