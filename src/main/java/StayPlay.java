@@ -1010,7 +1010,11 @@ public final class StayPlay {
 
         static int figure(long[] row, int place) {
             int limb = place / 8;
-            return limb < WIDTH ? (int) (row[limb] / TENS[place % 8] % 10) : 0;
+            long rest = limb < WIDTH ? row[limb] : 0;
+            for (int i = place % 8; i > 0; i--) {
+                rest /= 10;
+            }
+            return (int) (rest % 10);
         }
 
         static int nine(long[] row, int place) {
