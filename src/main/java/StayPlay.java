@@ -257,7 +257,7 @@ public final class StayPlay {
         if (zero < 0 || zero > now.people[0] || one < 0 || one > now.people[1]) {
             return NONE;
         }
-        if (zero + one == 0 || now.endWithin(played)) {
+        if (zero + one == 0) {
             return NONE;
         }
         if (chooser == FIXED) {
@@ -532,7 +532,7 @@ public final class StayPlay {
 
         boolean endWithin(int set) {
             for (int scene = 0; scene < scenes; scene++) {
-                if (holds(set, scene) && isEnd(scene)) {
+                if ((set >> scene & 1) == 1 && isEnd(scene)) {
                     return true;
                 }
             }
@@ -549,8 +549,11 @@ public final class StayPlay {
             return sum;
         }
 
-        /** The scenes that can be played behind these, as bits. */
+        /** The scenes that can be played behind these, as bits; behind an end there are none. */
         int open(int set) {
+            if (endWithin(set)) {
+                return 0;
+            }
             int left = terms[LONG] - minutesOf(set);
             int bits = 0;
             for (int scene = 0; scene < scenes; scene++) {
@@ -1439,15 +1442,15 @@ public final class StayPlay {
         int listed() {
             if (!rowsKnown) {
                 rowCount = 0;
-                list(0, 0, 0, false);
+                list(0, 0, 0);
                 rowsKnown = true;
             }
             return rowCount;
         }
 
         /** A row in one number: three bits a scene, its size above them. */
-        private void list(int set, int row, int played, boolean over) {
-            int open = over || played >= MOST_SCENES ? 0 : house.open(set);
+        private void list(int set, int row, int played) {
+            int open = played >= MOST_SCENES ? 0 : house.open(set);
             if (open == 0) {
                 if (rowCount < MOST_ROWS) {
                     rowList[rowCount] = row | played << 3 * MOST_SCENES;
@@ -1457,7 +1460,7 @@ public final class StayPlay {
             }
             for (int scene = 0; scene < house.scenes; scene++) {
                 if ((open >> scene & 1) == 1) {
-                    list(set | 1 << scene, row | scene << 3 * played, played + 1, house.isEnd(scene));
+                    list(set | 1 << scene, row | scene << 3 * played, played + 1);
                 }
             }
         }

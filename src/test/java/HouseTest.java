@@ -211,7 +211,7 @@ public final class HouseTest {
         x.scene(40, 1, 0);
         x.scene(30, 3, 1);
         x.scene(31, 16, 0);
-        int[] due = {1, 2, 1, 4, 1, 2, 1, 0};
+        int[] due = {1, 2, 1, 4, 0, 0, 0, 0};
         for (int played = 0; played < 8; played++) {
             C.due("can(" + played + ")", x.can(played), due[played]);
         }
@@ -225,6 +225,25 @@ public final class HouseTest {
         C.due("can(16)", x.can(16), 9);
         x.terms(2, 0);
         C.due("can(0), no time", x.can(0), 0);
+    }
+
+    /** Behind an end the evening is over, wherever it stood among those that were played. */
+    private static void canBehindAnEnd() {
+        C.about("promise 14, ends");
+        StayPlay x = new StayPlay();
+        x.scene(1, 0, 1);
+        x.scene(1, 0, 0);
+        x.scene(1, 1, 0);
+        int[] due = {3, 0, 1, 0, 3, 0, 1, 0};
+        for (int played = 0; played < 8; played++) {
+            C.due("can(" + played + ")", x.can(played), due[played]);
+        }
+        x.put(0, 2, 0);
+        C.due("can(1), no end any more", x.can(1), 6);
+        x.put(1, 2, 1);
+        C.due("can(1), the end is another", x.can(1), 6);
+        C.due("can(3), the end is another", x.can(3), 0);
+        C.due("can(8), behind all scenes", x.can(8), -1);
     }
 
     private static void book() {
@@ -427,6 +446,7 @@ public final class HouseTest {
         rows();
         force();
         can();
+        canBehindAnEnd();
         book();
         images();
         imagesOfRows();

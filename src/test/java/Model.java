@@ -253,7 +253,15 @@ final class Model {
     }
 
     int can(int played) {
-        return in(played, 0, (1 << s.scenes.size()) - 1) ? bits(playable(played)) : NONE;
+        if (!in(played, 0, (1 << s.scenes.size()) - 1)) {
+            return NONE;
+        }
+        for (int i = 0; i < s.scenes.size(); i++) {
+            if (has(played, i) && isEnd(i)) {
+                return 0;
+            }
+        }
+        return bits(playable(played));
     }
 
     int book(int scene) {

@@ -228,6 +228,9 @@ public final class RandomRunsTest {
                     played |= open & -open;
                     latest = open == 0 ? latest : Integer.numberOfTrailingZeros(open);
                 }
+                if (played > 0 && latest == -1 && pick(2) == 0) {
+                    latest = 31 - Integer.numberOfLeadingZeros(played);
+                }
                 zero = about(model.people()[0] + 1);
                 one = about(model.people()[1] + 1);
                 same("next(" + chooser + "," + played + "," + latest + "," + zero + "," + one + ")",
