@@ -511,6 +511,54 @@ public final class EveningEdgesTest {
         C.due("the fifth is an end", z.odds(2, 6), 0);
     }
 
+    /** Five of each sort, five scenes in any order, numbers as great as they can be. */
+    private static void full() {
+        C.about("Terms I, III: 5 SCENES, 5 PEOPLE of each SORT, the greatest of all");
+        StayPlay x = scenes(60, 60, 60, 60, 60);
+        for (int sort = 0; sort < 2; sort++) {
+            x.sort(sort, 0, 5);
+            x.sort(sort, 1, 9);
+        }
+        x.terms(0, 9);
+        x.terms(1, 99);
+        x.terms(2, 300);
+        for (int i = 4; i >= 0; i--) {
+            x.book(i);
+        }
+        for (int chooser = 0; chooser < 4; chooser++) {
+            C.due("worth(" + chooser + "), all stay", x.worth(chooser), 24300000);
+            C.due("all gone, all stay", x.odds(chooser, 6), 0);
+            C.due("run", x.run(chooser, 1), 5);
+            C.due("ran", x.ran(4, 1) * 10 + x.ran(4, 2), 55);
+        }
+        C.force(x, "stays 99");
+        // 48600 times 4.90099501; a hundredth multiplied ten times by itself, some five times over, are all gone.
+        for (int chooser = 0; chooser < 4; chooser++) {
+            C.due("worth(" + chooser + ")", x.worth(chooser), 23818835);
+            C.due("figures(" + chooser + ", 11)", x.figures(chooser, 11), 2381883);
+            C.due("figures(" + chooser + ", 10)", x.figures(chooser, 10), 574860000);
+            C.due("figures(" + chooser + ", 9)", x.figures(chooser, 9), 0);
+            C.due("figures(" + chooser + ", 12)", x.figures(chooser, 12), 0);
+            C.due("all gone", x.odds(chooser, 6), 0);
+        }
+        C.force(x, "stays 0 if played=4");
+        for (int chooser = 0; chooser < 4; chooser++) {
+            C.due("all gone behind the fifth", x.odds(chooser, 6), 1000000);
+        }
+        C.due("rows()", x.rows(), 120);
+        C.due("seeing()", x.seeing(), 0);
+        C.due("loss(0)", x.loss(0), 2430000);
+        C.due("evening(1)", x.evening(1), 12150000);
+        for (int i = 0; i < 5; i++) {
+            x.put(i, 2, 1);
+        }
+        C.force(x, "price 1000");
+        // 10 * (9 * 9 * 60 + 9 * 99 + 99).
+        C.due("five ends", x.worth(2), 5850000);
+        C.due("ten see one", x.odds(2, 7), 1000);
+        C.due("nights", x.nights(60, 2, 1000000, 2), 36000);
+    }
+
     private static void facts() {
         C.about("Terms II: before (-1: none), heads, own, minute, played as the EVENING goes");
         StayPlay x = chain(10, 20, 30);
@@ -631,6 +679,7 @@ public final class EveningEdgesTest {
         loss();
         evening();
         odds();
+        full();
         facts();
         anew();
         C.end("EveningEdgesTest");
